@@ -48,6 +48,9 @@ public final class CodeMaker {
         S_GREATER = ONE_BYTE + '>', S_AND = ONE_BYTE + '&', S_BAR = ONE_BYTE + '|';
     private static final String SIGNS = "()[],;:.+-*/=<>&|";
 
+    // Faults of reading.
+    private static final int CANT_COME = 6, TOO_DEEP = 7;
+
     // Kinds of nodes.
     private static final int N_TEXT = 0, N_FUNCTION = 1, N_FUNCTION_BLOCK = 2, N_PROGRAM = 3,
         N_SECTION = 4, N_DECLARATION = 5, N_NAME = 6, N_PLACE = 7, N_TYPE = 8, N_ARRAY = 9,
@@ -191,7 +194,10 @@ public final class CodeMaker {
         if (scope.blocks > MOST_UNITS) {
             return 50;
         }
-        writer.write();
+        code.forget();
+        for (int unit = 0; unit < scope.blocks; unit++) {
+            writer.unit(unit);
+        }
         if (code.size > MOST_CODE) {
             return 50;
         }
@@ -674,7 +680,7 @@ public final class CodeMaker {
                 block();
             }
             if (now != T_END) {
-                refuse();
+                refuse(CANT_COME);
             }
             tree.finish(root);
             return fault;
@@ -691,14 +697,10 @@ public final class CodeMaker {
             return at < MOST_BYTES ? tokens.kind[at + 1] : T_END;
         }
 
-        /** The token can't come here. */
-        private void refuse() {
-            stop(now == T_BAD ? tokens.value[at] : 6);
-        }
-
-        private void stop(int newFault) {
+        /** The token can't come here; one that is badly written has a fault of its own. */
+        private void refuse(int why) {
             if (fault == 0) {
-                fault = newFault;
+                fault = now == T_BAD ? tokens.value[at] : why;
                 place = tokens.place[at];
             }
             now = T_STOPPED;
@@ -708,14 +710,14 @@ public final class CodeMaker {
             if (now == kind) {
                 step();
             } else {
-                refuse();
+                refuse(CANT_COME);
             }
         }
 
         /** The token is open from here on. */
         private void stepInto() {
             if (open >= MOST_OPEN) {
-                stop(7);
+                refuse(TOO_DEEP);
             } else {
                 open++;
                 step();
@@ -731,7 +733,7 @@ public final class CodeMaker {
                 tree.add(kind, tokens.place[at], value);
                 step();
             } else {
-                refuse();
+                refuse(CANT_COME);
             }
         }
 
@@ -813,10 +815,10 @@ public final class CodeMaker {
 
         private void simpleType() {
             if (now >= W_BOOL && now <= W_DINT) {
-                addHere(N_TYPE, now - W_BOOL);
+                tree.add(N_TYPE, tokens.place[at], now - W_BOOL);
                 step();
             } else {
-                refuse();
+                refuse(CANT_COME);
             }
         }
 
@@ -834,10 +836,10 @@ public final class CodeMaker {
                 tree.add(N_NUMBER, tokens.place[begin], sign * tokens.value[at]);
                 step();
             } else if (sign > 0 && (now == W_TRUE || now == W_FALSE)) {
-                addHere(N_TRUTH, now == W_TRUE ? 1 : 0);
+                tree.add(N_TRUTH, tokens.place[at], now == W_TRUE ? 1 : 0);
                 step();
             } else {
-                refuse();
+                refuse(CANT_COME);
             }
         }
 
@@ -890,7 +892,7 @@ public final class CodeMaker {
                 int element = addHere(N_ELEMENT, tokens.value[at]);
                 step();
                 stepInto();
-                outermostExpression();
+                expression(0, true);
                 expect(S_CLOSE_INDEX);
                 open--;
                 tree.finish(element);
@@ -899,7 +901,7 @@ public final class CodeMaker {
             }
             tree.place[node] = tokens.place[at];
             expect(S_ASSIGN);
-            outermostExpression();
+            expression(0, true);
             tree.finish(node);
         }
 
@@ -914,7 +916,7 @@ public final class CodeMaker {
                 int parameter = addHere(N_PARAMETER, tokens.value[at]);
                 expect(T_NAME);
                 expect(S_ASSIGN);
-                outermostExpression();
+                expression(0, true);
                 tree.finish(parameter);
             }
             expect(S_CLOSE);
@@ -925,12 +927,12 @@ public final class CodeMaker {
         private void ifStatement() {
             int node = addHere(N_IF, 0);
             stepInto();
-            outermostExpression();
+            expression(0, true);
             expect(W_THEN);
             body();
             for (int turn = 0; turn < MOST_BYTES && now == W_ELSIF; turn++) {
                 step();
-                outermostExpression();
+                expression(0, true);
                 expect(W_THEN);
                 body();
             }
@@ -946,7 +948,7 @@ public final class CodeMaker {
         private void caseStatement() {
             int node = addHere(N_CASE, 0);
             stepInto();
-            outermostExpression();
+            expression(0, true);
             expect(W_OF);
             for (int turn = 0; turn < MOST_BYTES && startsConstant(); turn++) {
                 int choice = addHere(N_CHOICE, 0);
@@ -1001,23 +1003,23 @@ public final class CodeMaker {
             tree.finish(node);
         }
 
-        /** What stands between its operands is open until it ends. */
-        private void outermostExpression() {
+        /**
+         * Operands and what is between them, if that binds as close as told;
+         * this is open until the outermost expression ends.
+         */
+        private void expression(int closeness, boolean isOutermost) {
             int before = open;
-            expression(0);
-            open = before;
-        }
-
-        /** Operands and what is between them, if that binds as close as told. */
-        private void expression(int closeness) {
             int left = tree.size;
             operand();
             for (int turn = 0; turn <= MOST_OPEN && closenessOf(now) >= closeness; turn++) {
                 int own = closenessOf(now);
                 tree.wrap(left, N_TWO, tokens.place[at], operatorOf(now));
                 stepInto();
-                expression(own + 1);
+                expression(own + 1, false);
                 tree.finish(left);
+            }
+            if (isOutermost) {
+                open = before;
             }
         }
 
@@ -1078,7 +1080,7 @@ public final class CodeMaker {
                     break;
                 case S_OPEN:
                     stepInto();
-                    expression(0);
+                    expression(0, false);
                     expect(S_CLOSE);
                     open--;
                     break;
@@ -1095,7 +1097,7 @@ public final class CodeMaker {
                     namedOperand();
                     break;
                 default:
-                    refuse();
+                    refuse(CANT_COME);
                     break;
             }
         }
@@ -1108,7 +1110,7 @@ public final class CodeMaker {
                     node = addHere(N_ELEMENT, name);
                     step();
                     stepInto();
-                    expression(0);
+                    expression(0, false);
                     expect(S_CLOSE_INDEX);
                     open--;
                     break;
@@ -1126,7 +1128,7 @@ public final class CodeMaker {
                         if (turn > 0) {
                             expect(S_COMMA);
                         }
-                        expression(0);
+                        expression(0, false);
                     }
                     expect(S_CLOSE);
                     open--;
@@ -1176,49 +1178,43 @@ public final class CodeMaker {
         }
 
         private void cell() {
-            if (now == S_MINUS) {
-                leaf(S_MINUS, N_WIRE, 0);
-            } else if (now == S_STAR) {
-                leaf(S_STAR, N_GAP, 0);
-            } else if (now == S_OPEN) {
-                coil();
-            } else if (startsCell()) {
-                contact();
-            } else {
-                refuse();
+            if (now == S_MINUS || now == S_STAR) {
+                leaf(now, now == S_MINUS ? N_WIRE : N_GAP, 0);
+                return;
             }
-        }
-
-        private void contact() {
-            int way = now == S_SLASH ? 1 : now == S_GREATER ? 2 : now == S_LESS ? 3 : 0;
-            int node = addHere(N_CONTACT, way);
-            if (way != 0) {
+            boolean isCoil = now == S_OPEN;
+            int node = addHere(isCoil ? N_COIL : N_CONTACT, 0);
+            if (isCoil) {
                 step();
             }
-            int output = NONE;
-            if (now == T_NAME && nextKind() == S_DOT) {
-                output = addHere(N_OUTPUT, tokens.value[at]);
-                step();
-                step();
-            }
-            leaf(T_NAME, N_NAME, tokens.value[at]);
-            if (output != NONE) {
-                tree.finish(output);
-            }
-            tree.finish(node);
-        }
-
-        private void coil() {
-            int node = addHere(N_COIL, 0);
-            step();
-            int way = now == S_SLASH ? 1 : now == S_PLUS ? 2 : now == S_MINUS ? 3 : 0;
+            int way = isCoil ? coilWay() : contactWay();
             tree.value[node] = way;
             if (way != 0) {
                 step();
             }
+            boolean isOutput = !isCoil && now == T_NAME && nextKind() == S_DOT;
+            int output = tree.size;
+            if (isOutput) {
+                addHere(N_OUTPUT, tokens.value[at]);
+                step();
+                step();
+            }
             leaf(T_NAME, N_NAME, tokens.value[at]);
-            expect(S_CLOSE);
+            if (isOutput) {
+                tree.finish(output);
+            }
+            if (isCoil) {
+                expect(S_CLOSE);
+            }
             tree.finish(node);
+        }
+
+        private int contactWay() {
+            return now == S_SLASH ? 1 : now == S_GREATER ? 2 : now == S_LESS ? 3 : 0;
+        }
+
+        private int coilWay() {
+            return now == S_SLASH ? 1 : now == S_PLUS ? 2 : now == S_MINUS ? 3 : 0;
         }
     }
 
@@ -1468,13 +1464,15 @@ public final class CodeMaker {
             for (int i = 0; i < PLACES; i++) {
                 isUsed[i] = false;
             }
-            for (int n = 0; n < tree.size && fault == 0; n++) {
-                lookAtAllBefore(n);
-                if (fault == 0) {
+            for (int n = 0; n <= tree.size && fault == 0; n++) {
+                while (depth > 0 && fault == 0 && tree.behind[path[depth - 1]] <= n) {
+                    depth--;
+                    tell(look(path[depth]), path[depth]);
+                }
+                if (n < tree.size && fault == 0) {
                     enter(n);
                 }
             }
-            lookAtAllBefore(tree.size);
             return fault;
         }
 
@@ -1482,13 +1480,6 @@ public final class CodeMaker {
             if (broken != 0) {
                 fault = broken;
                 place = tree.place[n];
-            }
-        }
-
-        private void lookAtAllBefore(int n) {
-            while (depth > 0 && fault == 0 && tree.behind[path[depth - 1]] <= n) {
-                depth--;
-                tell(look(path[depth]), path[depth]);
             }
         }
 
@@ -2067,13 +2058,26 @@ public final class CodeMaker {
         final int[] first = new int[MOST_CODE];
         final int[] second = new int[MOST_CODE];
         final int[] third = new int[MOST_CODE];
-        final int[] start = new int[MOST_UNITS + 1];
+        final int[] start = new int[MOST_UNITS];
         final int[] bound = new int[MOST_UNITS];
         int size;
         int units;
 
+        void forget() {
+            size = 0;
+            units = 0;
+        }
+
+        /** A new unit begins; where it starts. */
+        int begin() {
+            units = Math.min(units + 1, MOST_UNITS);
+            start[units - 1] = size;
+            return size;
+        }
+
+        /** A unit goes up to the next one, the last one up to the end. */
         int unitSize(int unit) {
-            return start[unit + 1] - start[unit];
+            return (unit + 1 < units ? start[unit + 1] : size) - start[unit];
         }
 
         /** All are counted, but those that are too many are not kept. */
@@ -2155,17 +2159,6 @@ public final class CodeMaker {
             this.code = code;
         }
 
-        void write() {
-            code.size = 0;
-            code.units = Math.min(scope.blocks, MOST_UNITS);
-            for (int b = 0; b < code.units; b++) {
-                code.start[b] = code.size;
-                unitStart = code.size;
-                unit(b);
-            }
-            code.start[code.units] = code.size;
-        }
-
         private int here() {
             return code.size - unitStart;
         }
@@ -2174,7 +2167,9 @@ public final class CodeMaker {
             code.add(number, a, 0, 0);
         }
 
-        private void unit(int b) {
+        /** A block's code becomes the unit behind all before. */
+        void unit(int b) {
+            unitStart = code.begin();
             powers = scope.cells[b] - POWERS;
             exits = NONE;
             if (scope.kind[b] == N_FUNCTION) {
@@ -2263,14 +2258,16 @@ public final class CodeMaker {
 
         private void ifStatement(int n) {
             int ends = NONE;
+            boolean isGuarded = false;
             for (int i = n + 1; i < tree.behind[n]; i = tree.behind[i]) {
-                if (tree.kind[i] == N_BODY) {
-                    body(i);
-                } else {
+                if (tree.kind[i] != N_BODY) {
                     expression(i);
-                    i = tree.behind[i];
+                } else if (isGuarded) {
                     ends = guardedBody(i, tree.behind[n], ends);
+                } else {
+                    body(i);
                 }
+                isGuarded = tree.kind[i] != N_BODY;
             }
             code.aimAll(ends, here());
         }
@@ -2403,7 +2400,7 @@ public final class CodeMaker {
                     code.add(I_WRITE, b, scope.cell[v], 0);
                 }
             }
-            add(I_CALL, b);
+            code.add(I_CALL, b, 0, 0);
             code.add(I_READ, b, 0, 0);
         }
 
@@ -2570,7 +2567,7 @@ public final class CodeMaker {
             int from = code.start[unit];
             int size = code.unitSize(unit);
             int laid = 0;
-            Arrays.fill(steps, NONE);
+            Arrays.fill(steps, 0, size + 1, NONE);
             steps[0] = 0;
             for (int i = 0; i < size; i++) {
                 int number = code.number[from + i];
@@ -2606,7 +2603,7 @@ public final class CodeMaker {
         private long boundOf(int unit) {
             int from = code.start[unit];
             int size = code.unitSize(unit);
-            Arrays.fill(steps, NONE);
+            Arrays.fill(steps, 0, size + 1, NONE);
             steps[0] = 0;
             loop = 0;
             ended[0] = NONE;
@@ -2820,9 +2817,9 @@ public final class CodeMaker {
                     store(base + a, pop());
                     return 0;
                 case I_TAKE:
-                    return take(a, b, code.third[i]);
+                    return takeElement(a, b, code.third[i]);
                 case I_PUT:
-                    return put(a, b, code.third[i]);
+                    return putElement(a, b, code.third[i]);
                 case I_READ:
                     push(load(scope.base[a] + b));
                     return 0;
@@ -2837,6 +2834,9 @@ public final class CodeMaker {
                 case I_CHOOSE:
                     choose();
                     return 0;
+                case I_BLOCK:
+                    block(a, base + b);
+                    return 0;
                 default:
                     move(code.number[i], a, b);
                     return 0;
@@ -2848,7 +2848,7 @@ public final class CodeMaker {
             return far >= 0 && far < elements;
         }
 
-        private int take(int cell, int low, int elements) {
+        private int takeElement(int cell, int low, int elements) {
             int i = pop();
             if (!isElement(i, low, elements)) {
                 return INDEX;
@@ -2857,7 +2857,7 @@ public final class CodeMaker {
             return 0;
         }
 
-        private int put(int cell, int low, int elements) {
+        private int putElement(int cell, int low, int elements) {
             int v = pop();
             int i = pop();
             if (!isElement(i, low, elements)) {
@@ -2884,7 +2884,7 @@ public final class CodeMaker {
             push(pop() != 0 ? y : x);
         }
 
-        /** Instructions that lead elsewhere, and standard blocks. */
+        /** Instructions that lead elsewhere, or count how often. */
         private void move(int number, int a, int b) {
             switch (number) {
                 case I_GO:
@@ -2912,32 +2912,25 @@ public final class CodeMaker {
                 case I_CALL:
                     enter(a, scope.base[a]);
                     break;
-                case I_BLOCK:
-                    block(a, base + b);
-                    break;
                 default:
                     next = code.unitSize(unit);
                     break;
             }
         }
 
-        private static int w16(int x) {
-            return (short) x;
-        }
-
         /** What TWO leaves; of a division by 0, which is a fault, 0. */
         static int two(int number, int x, int y) {
             switch (number) {
                 case 0:
-                    return w16(x + y);
+                    return (short) (x + y);
                 case 1:
-                    return w16(x - y);
+                    return (short) (x - y);
                 case 2:
-                    return w16(x * y);
+                    return (short) (x * y);
                 case 3:
-                    return y == 0 ? 0 : w16(x / y);
+                    return y == 0 ? 0 : (short) (x / y);
                 case 4:
-                    return y == 0 ? 0 : w16(x % y);
+                    return y == 0 ? 0 : (short) (x % y);
                 case 5:
                     return x + y;
                 case 6:
@@ -2993,9 +2986,9 @@ public final class CodeMaker {
             }
             switch (number) {
                 case 19:
-                    return w16(x << y);
+                    return (short) (x << y);
                 case 20:
-                    return w16((x & 65535) >>> y);
+                    return (short) ((x & 65535) >>> y);
                 case 21:
                     return x << y;
                 default:
@@ -3007,7 +3000,7 @@ public final class CodeMaker {
         static int one(int number, int x) {
             switch (number) {
                 case 0:
-                    return w16(-x);
+                    return (short) (-x);
                 case 1:
                     return -x;
                 case 2:
@@ -3015,11 +3008,11 @@ public final class CodeMaker {
                 case 3:
                     return ~x;
                 case 4:
-                    return w16(x < 0 ? -x : x);
+                    return (short) (x < 0 ? -x : x);
                 case 5:
                     return x < 0 ? -x : x;
                 case 6:
-                    return w16(x);
+                    return (short) x;
                 default:
                     return x == 0 ? 0 : 1;
             }
