@@ -165,7 +165,8 @@ public final class MadeTests {
         Checks.due("its place", x.count(1), 18);
         Checks.due("nothing at hand", x.get(960), 0);
         Checks.due("no cells", x.count(4), 0);
-        Checks.due("clear keeps the fault", x.clear() * 0 + x.count(0), 17);
+        Checks.due("clear", x.clear(), 42);
+        Checks.due("it keeps the fault", x.count(0), 17);
         Checks.feed(x, "PROGRAM foo VAR x AT %IX3 : BOOL; END_VAR END_PROGRAM");
         Checks.due("fine again", x.make(), 0);
         Checks.due("no place", x.count(1), CodeMaker.NONE);

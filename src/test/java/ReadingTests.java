@@ -158,6 +158,12 @@ public final class ReadingTests {
         Checks.fine(Checks.program(x, "t(IN := b" + Checks.repeat(" OR b", 59) + ", PT := x" + Checks.repeat(" - x", 59) + ");"));
         Checks.fine(Checks.program(x, "a[x" + Checks.repeat(" + x", 59) + "] := x" + Checks.repeat(" + x", 60) + ";"));
         Checks.fine(Checks.program(x, "CASE x" + Checks.repeat(" + x", 59) + " OF -1 .. -1: x := x" + Checks.repeat(" + x", 59) + "; END_CASE;"));
+        String many = Checks.repeat(" OR b", 59);
+        String sum = "x := x" + Checks.repeat(" + x", 59) + ";";
+        Checks.fine(Checks.program(x, "IF b" + many + " THEN " + sum + " ELSIF b" + many + " THEN " + sum + " ELSE " + sum + " END_IF;" + sum + sum));
+        Checks.faulty(7, Checks.program(x, "IF b" + many + " THEN ELSIF b" + many + " \u00b6OR b THEN END_IF;"));
+        Checks.fine(Checks.program(x, "a[ABS(x" + Checks.repeat(" + x", 58) + ")] := a[x" + Checks.repeat(" + x", 59) + "];"));
+        Checks.faulty(7, Checks.program(x, "x := a[x" + Checks.repeat(" + x", 40) + "] + a[x" + Checks.repeat(" + x", 18) + " \u00b6+ x];"));
         Checks.faulty(7, Checks.program(x, Checks.repeat("IF b THEN ", 60) + "t\u00b6(); END_IF;"));
         Checks.faulty(7, Checks.program(x, Checks.repeat("IF b THEN ", 60) + "x := f\u00b6(); END_IF;"));
         Checks.faulty(7, Checks.program(x, Checks.repeat("IF b THEN ", 60) + "\u00b6FOR x := 1 TO 2 DO"));

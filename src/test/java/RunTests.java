@@ -55,6 +55,13 @@ public final class RunTests {
         comes("x MOD y", -7, 2, -1);
         comes("x / y", Integer.MIN_VALUE, -1, 0);
         comes("x MOD y", Integer.MIN_VALUE, -1, 0);
+        for (String sort : new String[] {"x / y", "e / f"}) {
+            comes(sort, 7, 1, 7);
+            comes(sort, 7, -2, -3);
+            comes(sort, -8, -2, 4);
+            comes(sort.replace("/", "MOD"), 7, 1, 0);
+            comes(sort.replace("/", "MOD"), -8, 3, -2);
+        }
         comes("x + y", 65536, 65537, 1);
         comes("x / y", 1 << 20, 4, 0);
         comes("e + f", Integer.MAX_VALUE, 1, Integer.MIN_VALUE);
@@ -67,6 +74,15 @@ public final class RunTests {
         comes("e AND f", 12, 10, 8);
         comes("e OR f", 12, 10, 14);
         comes("e XOR f", 12, 10, 6);
+        // of a lesser, the same and a greater one
+        String[] signs = {"=", "<>", "<", ">", "<=", ">="};
+        int[][] hold = {{0, 1, 0}, {1, 0, 1}, {1, 0, 0}, {0, 0, 1}, {1, 1, 0}, {0, 1, 1}};
+        for (int i = 0; i < signs.length; i++) {
+            for (int j = 0; j < 3; j++) {
+                comes("e " + signs[i] + " f", j - 2, -1, hold[i][j]);
+                comes("x " + signs[i] + " y", j - 2, -1, hold[i][j]);
+            }
+        }
         comes("e = f", 5, 5, 1);
         comes("e <> f", 5, 5, 0);
         comes("e < f", -5, 5, 1);
