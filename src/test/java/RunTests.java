@@ -320,6 +320,21 @@ public final class RunTests {
         x.set(966, Integer.MAX_VALUE);
         // -2^31 - (2^31 - 1) is 1 in its lowest 32 bits
         timer(x, 1, 0, 0, 1);
+        // ET becomes 0 where it is told to, whatever it was
+        int[][] rows = {{0, 0}, {0, 1}, {1, 0}, {1, 1}};
+        int[][] onDue = {{0, 0}, {0, 0}, {0, 0}, {0, 43}};
+        int[][] offDue = {{0, 33}, {1, 0}, {1, 0}, {1, 0}};
+        int[][] pulseDue = {{0, 0}, {0, 0}, {1, 0}, {0, 33}};
+        String[] types = {"TON", "TOF", "TP"};
+        int[][][] due = {onDue, offDue, pulseDue};
+        for (int i = 0; i < types.length; i++) {
+            for (int j = 0; j < rows.length; j++) {
+                CodeMaker t = timerOf(types[i], "50");
+                t.set(964, 33);
+                t.set(965, rows[j][1]);
+                timer(t, rows[j][0], 10, due[i][j][0], due[i][j][1]);
+            }
+        }
         CodeMaker p = timerOf("TP", "50");
         p.set(963, 5);
         timer(p, 0, 10, 5, 10);
