@@ -4,8 +4,9 @@ import java.nio.file.Files;
 import java.nio.file.Path;
 
 /**
- * The texts of src/test/data/texts.txt, with answers that another program,
- * written from the document alone, gave for them. Rows: T text; F fault place;
+ * The texts of src/test/data/texts.txt, with answers that a second program for
+ * the document, by the same author, gave for them: it finds slips, not a
+ * misreading of the document. Rows: T text; F fault place;
  * M units instructions cells bound and a sum of the code; C a sum of all cells;
  * S cell v and what it was; R ticks answer steps NOW and a sum of all cells.
  */
