@@ -1,3 +1,7 @@
+import java.io.IOException;
+import java.nio.file.Files;
+import java.nio.file.Path;
+
 /** What all tests use: texts are fed, answers are compared, code is told in words. */
 final class Checks {
     private static final String[] NAMES = {"PUSH", "LOAD", "STORE", "TAKE", "PUT", "READ", "WRITE", "TWO", "ONE",
@@ -7,8 +11,12 @@ final class Checks {
     static final char MARK = '\u00b6';
 
     private static final int MOST_TOLD = 20;
+    private static final int MOST_CLIPPED = 400;
     private static int asked = 0;
     private static int wrong = 0;
+    private static String document = "";
+    private static String sentence = "";
+    private static int askedBefore = 0;
 
     private Checks() {
     }
@@ -19,12 +27,40 @@ final class Checks {
             wrong++;
         }
         if (!got.equals(want) && wrong <= MOST_TOLD) {
-            System.out.println(what + "\n    answered " + got + "\n    due is   " + want);
+            String clipped = what.length() > MOST_CLIPPED ? what.substring(0, MOST_CLIPPED) + " .." : what;
+            System.out.println((sentence.isEmpty() ? "" : "'" + sentence + "': ") + clipped + "\n    answered " + got + "\n    due is   " + want);
+        }
+    }
+
+    /** The words of the document that all answers from here on are asked for, up to the next ones. */
+    static void says(String words) {
+        endSentence();
+        if (document.isEmpty()) {
+            document = documentOnOneLine();
+        }
+        sentence = words;
+        due("these words stand in the document", document.contains(words), true);
+        askedBefore = asked;
+    }
+
+    private static void endSentence() {
+        if (!sentence.isEmpty()) {
+            due("something is asked for these words", asked > askedBefore, true);
+        }
+        sentence = "";
+    }
+
+    private static String documentOnOneLine() {
+        try {
+            return Files.readString(Path.of("../shared/DOC.md")).replaceAll("\\s+", " ");
+        } catch (IOException e) {
+            return "there is no document";
         }
     }
 
     /** The last thing that a test does. */
     static void finish(String test) {
+        endSentence();
         System.out.println(test + ": " + asked + " answers, " + wrong + " of them wrong");
         if (wrong != 0 || asked == 0) {
             System.exit(1);
@@ -77,6 +113,15 @@ final class Checks {
         due("units of " + marked, maker.count(2), 0);
         due("length in " + marked, maker.length(0), CodeMaker.NONE);
         due("run of " + marked, maker.run(0), CodeMaker.NONE);
+    }
+
+    /** The text has this fault at this place; of fault 0 there is no place. */
+    static void faultyAt(int fault, int place, String text) {
+        if (fault == 0) {
+            fine(text);
+        } else {
+            faulty(fault, text.substring(0, place) + MARK + text.substring(place));
+        }
     }
 
     static void fine(String text) {
