@@ -16,6 +16,7 @@ public final class CodeEdgeTests {
         foldedNumbers();
         dividedByZero();
         widths();
+        functions();
         ifs();
         cases();
         loops();
@@ -46,6 +47,10 @@ public final class CodeEdgeTests {
                 "LOAD " + first[i] + ", STORE 960, LOAD " + last[i] + ", STORE 961");
         }
         Checks.due("no variables", Checks.made("PROGRAM p END_PROGRAM").count(4), 960);
+        CodeMaker first0 = Checks.made(Checks.program("v AT %IX0 : BOOL; u AT %QX0 : BOOL;", "u := v;"));
+        first0.set(0, 7);
+        first0.run(0);
+        Checks.due("the first cell is read", first0.get(256), 7);
     }
 
     private static void sizes() {
@@ -220,6 +225,20 @@ public final class CodeEdgeTests {
         code("d := x + 32767; d := x + 32768;", "LOAD 960, PUSH 32767, TWO 0, STORE 961, LOAD 960, PUSH 32768, TWO 5, STORE 961");
     }
 
+    private static void functions() {
+        Checks.says("34: ABS: x, ONE 4 if x is INT, else 5. MIN, MAX: both, TWO 23, 24. LIMIT a b c: a, b, TWO 24, c, TWO 23. SEL: all, CHOOSE.");
+        code("x := ABS(x); d := ABS(d);", "LOAD 960, ONE 4, STORE 960, LOAD 961, ONE 5, STORE 961");
+        code("x := MIN(x, y); d := MIN(d, x);", "LOAD 960, LOAD 963, TWO 23, STORE 960, LOAD 961, LOAD 960, TWO 23, STORE 961");
+        code("x := MAX(x, y);", "LOAD 960, LOAD 963, TWO 24, STORE 960");
+        code("x := LIMIT(x, y, 7); x := LIMIT(1, 2, x);", "LOAD 960, LOAD 963, TWO 24, PUSH 7, TWO 23, STORE 960, PUSH 1, PUSH 2, TWO 24, LOAD 960, TWO 23, STORE 960");
+        code("x := SEL(b, x, y);", "LOAD 962, LOAD 960, LOAD 963, CHOOSE, STORE 960");
+        Checks.says("SHL, SHR: both, TWO 19, 20 if the first is INT, else 21, 22. TO_INT: x, ONE 6. TO_DINT: x. TO_BOOL: x, ONE 7.");
+        code("x := SHL(x, d); x := SHR(x, d);", "LOAD 960, LOAD 961, TWO 19, STORE 960, LOAD 960, LOAD 961, TWO 20, STORE 960");
+        code("d := SHL(d, x); d := SHR(d, x);", "LOAD 961, LOAD 960, TWO 21, STORE 961, LOAD 961, LOAD 960, TWO 22, STORE 961");
+        code("x := TO_INT(d); d := TO_DINT(b); b := TO_BOOL(x);", "LOAD 961, ONE 6, STORE 960, LOAD 962, STORE 961, LOAD 960, ONE 7, STORE 962");
+        code("x := TO_INT(x); d := TO_DINT(d); x := TO_INT(b);", "LOAD 960, ONE 6, STORE 960, LOAD 961, STORE 961, LOAD 962, ONE 6, STORE 960");
+    }
+
     private static void ifs() {
         Checks.says("15: for each expression: it, UNLESS (behind its body and that one's GO), body, GO to the end, if another child is behind; the 11 by ELSE.");
         code("IF b THEN END_IF;", "LOAD 962, UNLESS 2");
@@ -257,6 +276,7 @@ public final class CodeEdgeTests {
         code("FOR x := 5 TO 5 DO END_FOR;", "PUSH 5, STORE 960, COUNT 969 1, NEXT 969 9, " + LOOP_END + ", BACK 3");
         code("FOR d := -5 TO 5 BY 3 DO END_FOR;", "PUSH -5, STORE 961, COUNT 969 4, NEXT 969 9, LOAD 961, PUSH 3, TWO 5, STORE 961, BACK 3");
         code("FOR x := 32767 TO -32768 BY -32768 DO END_FOR;", "PUSH 32767, STORE 960, COUNT 969 2, NEXT 969 9, LOAD 960, PUSH -32768, TWO 0, STORE 960, BACK 3");
+        code("FOR x := 1 TO 4 BY 2 DO b := b; y := x; END_FOR;", "PUSH 1, STORE 960, COUNT 969 2, NEXT 969 13, LOAD 962, STORE 962, LOAD 960, STORE 963, LOAD 960, PUSH 2, TWO 0, STORE 960, BACK 3");
         code("b := b; FOR x := 1 TO 2 DO b := b; END_FOR;", "LOAD 962, STORE 962, PUSH 1, STORE 960, COUNT 969 2, NEXT 969 13, LOAD 962, STORE 962, " + LOOP_END + ", BACK 5");
         Checks.code("FUNCTION f : INT FOR f := 1 TO 2 DO END_FOR; END_FUNCTION " + Checks.program(ALL, "FOR x := 1 TO 1 DO END_FOR;"),
             "PUSH 1, STORE 960, COUNT 969 1, NEXT 969 9, " + LOOP_END + ", BACK 3");

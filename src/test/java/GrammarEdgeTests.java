@@ -51,6 +51,9 @@ public final class GrammarEdgeTests {
         Checks.fine(LEAST);
         Checks.fine("FUNCTION f : INT END_FUNCTION FUNCTION_BLOCK g END_FUNCTION_BLOCK FUNCTION h : BOOL END_FUNCTION " + LEAST);
         Checks.faulty(6, LEAST + " \u00b6;");
+        Checks.faulty(6, LEAST + " \u00b6%IX0");
+        Checks.faulty(6, LEAST + " \u00b65");
+        Checks.faulty(6, LEAST + " \u00b6p");
         Checks.faulty(6, "\u00b6p");
         Checks.says("block: FUNCTION name ':' simple {section} body END_FUNCTION | FUNCTION_BLOCK name {section} body END_FUNCTION_BLOCK | PROGRAM name {section} body END_PROGRAM.");
         String[] ends = {"END_FUNCTION", "END_FUNCTION_BLOCK", "END_PROGRAM"};
@@ -105,6 +108,9 @@ public final class GrammarEdgeTests {
         Checks.faulty(6, Checks.program("a : ARRAY [\u00b6] OF INT;", ""));
         Checks.faulty(6, Checks.program("a : ARRAY [5\u00b6] OF INT;", ""));
         Checks.faulty(6, Checks.program("a : ARRAY [5 .. \u00b6] OF INT;", ""));
+        for (String sign : new String[] {":=", "<=", ">=", "<>", ".", ",", ":", "-"}) {
+            Checks.faulty(6, Checks.program("a : ARRAY [5 \u00b6" + sign + " 6] OF INT;", ""));
+        }
         Checks.faulty(6, Checks.program("a : ARRAY [1 .. 2\u00b6, 1 .. 2] OF INT;", ""));
         Checks.faulty(6, Checks.program("a : ARRAY [1 .. 2] \u00b6INT;", ""));
         Checks.faulty(6, Checks.program("a : ARRAY [1 .. 2] OF \u00b6ARRAY [1 .. 2] OF INT;", ""));
@@ -167,7 +173,9 @@ public final class GrammarEdgeTests {
         Checks.says("statement: ';' | name ':=' expression ';' | name '[' expression ']' ':=' expression ';'");
         fine(";;; x := 1; a[0] := 1;");
         cant("x := \u00b6;");
-        cant("x \u00b6= 1;");
+        for (String sign : new String[] {"=", "..", "<=", ">=", "<>", ":", "."}) {
+            cant("x \u00b6" + sign + " 1;");
+        }
         cant("x \u00b6;");
         cant("a[\u00b6] := 1;");
         cant("a[0] \u00b6;");
@@ -248,12 +256,22 @@ public final class GrammarEdgeTests {
         codeOf("b", "AND", "=", "TWO 13, TWO 10");
         codeOf("b", "<>", "AND", "TWO 14| TWO 10");
         codeOf("b", "OR", "&", "TWO 10, TWO 11");
+        codeOf("b", "AND", "<>", "TWO 14, TWO 10");
         codeOf("b", "XOR", "&", "TWO 10, TWO 12");
         Checks.code(body("b := b = x < y;"), "LOAD 962, LOAD 960, LOAD 961, TWO 15, TWO 13, STORE 962");
         Checks.code(body("b := b <> x >= y;"), "LOAD 962, LOAD 960, LOAD 961, TWO 18, TWO 14, STORE 962");
         Checks.code(body("b := x > y = b;"), "LOAD 960, LOAD 961, TWO 16, LOAD 962, TWO 13, STORE 962");
-        Checks.code(body("b := x <= y + x;"), "LOAD 960, LOAD 961, LOAD 960, TWO 0, TWO 17, STORE 962");
-        Checks.code(body("b := x - y < x;"), "LOAD 960, LOAD 961, TWO 1, LOAD 960, TWO 15, STORE 962");
+        String[] compares = {"<", ">", "<=", ">="};
+        for (int i = 0; i < compares.length; i++) {
+            int number = 15 + i;
+            Checks.code(body("b := x " + compares[i] + " y + x;"), "LOAD 960, LOAD 961, LOAD 960, TWO 0, TWO " + number + ", STORE 962");
+            Checks.code(body("b := x - y " + compares[i] + " x;"), "LOAD 960, LOAD 961, TWO 1, LOAD 960, TWO " + number + ", STORE 962");
+            Checks.code(body("b := b = x " + compares[i] + " y;"), "LOAD 962, LOAD 960, LOAD 961, TWO " + number + ", TWO 13, STORE 962");
+            Checks.code(body("b := x " + compares[i] + " y <> b;"), "LOAD 960, LOAD 961, TWO " + number + ", LOAD 962, TWO 14, STORE 962");
+        }
+        // the loosest one may stand wherever an expression may
+        fine("x := (x OR y) * x; x := a[x OR y]; a[x OR y] := x OR y; x := MIN(x OR y, x OR y); t(IN := b OR b, PT := x OR y);");
+        fine("IF b OR b THEN ELSIF b OR b THEN END_IF; CASE x OR y OF END_CASE; x := -(x OR y);");
         codeOf("x", "+", "*", "TWO 2, TWO 0");
         codeOf("x", "-", "/", "TWO 3, TWO 1");
         codeOf("x", "+", "MOD", "TWO 4, TWO 0");
@@ -456,7 +474,8 @@ public final class GrammarEdgeTests {
         Checks.fine(body("a[x" + " + x".repeat(59) + "] := x" + " + x".repeat(60) + ";"));
         Checks.faulty(7, body("a[x" + " + x".repeat(59) + "] := x" + " + x".repeat(60) + " \u00b6+ x;"));
         // so are those of a condition behind which statements come
-        Checks.fine(body("IF b" + " OR b".repeat(59) + " THEN x := x" + " + x".repeat(59) + "; ELSIF b" + " OR b".repeat(59) + " THEN END_IF;"));
+        Checks.fine(body("IF b" + " OR b".repeat(59) + " THEN x := x" + " + x".repeat(59) + "; ELSIF b" + " OR b".repeat(59) + " THEN x := x" + " + x".repeat(59)
+            + "; ELSIF b" + " OR b".repeat(59) + " THEN END_IF; x := x" + " + x".repeat(60) + ";"));
         Checks.fine(body("CASE x" + " + x".repeat(59) + " OF 1: x := x" + " + x".repeat(59) + "; END_CASE;"));
     }
 

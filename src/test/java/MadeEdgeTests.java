@@ -11,9 +11,11 @@ public final class MadeEdgeTests {
         instructions();
         stack();
         stackByInstruction();
+        stackIsEven();
         notComeTo();
         loopsComeTo();
         unitsOnTop();
+        deepUnits();
         bounds();
         boundsOfUnits();
         ways();
@@ -72,6 +74,12 @@ public final class MadeEdgeTests {
         Checks.due("in two units", Checks.made(NOTHING + Checks.program("b : BOOL;", "b:=b;".repeat(1499))).count(3), 3000);
         Checks.faulty(50, "\u00b6" + NOTHING + Checks.program("b : BOOL;", "b:=b;".repeat(1499) + "RETURN;"));
         Checks.faulty(50, "\u00b6" + Checks.program("b : BOOL;", "RETURN;" + "b:=b;".repeat(1500)));
+        // behind the last one is where a jump leads to
+        CodeMaker behind = Checks.made(Checks.program("b : BOOL;", "b:=b;".repeat(1496) + "b := NOT b; IF b THEN b := b; ELSE END_IF;"));
+        Checks.due("a jump behind the last one", behind.told(0, 2999, 1), 3000);
+        Checks.due("instructions", behind.count(3), 3000);
+        Checks.due("the bound", behind.count(7), 3000);
+        Checks.due("a run", behind.run(0), 3000);
         // the last ones are a loop's, or a jump's
         String loop = "FOR x := 1 TO 2 DO EXIT; END_FOR;";
         Checks.due("a loop at the end", Checks.made(Checks.program("b : BOOL; x : INT;", "b:=b;".repeat(1495) + loop)).count(3), 3000);
@@ -117,6 +125,19 @@ public final class MadeEdgeTests {
         Checks.faulty(51, EIGHT + "\u00b6" + Checks.program("x : INT; a : ARRAY [0 .. 1] OF INT;", "a[0] := " + laying(64, "x") + ";"));
         Checks.fine(EIGHT + Checks.program("x : INT; a : ARRAY [0 .. 1] OF INT;", "a[" + laying(64, "x") + "] := 1;"));
         Checks.faulty(51, EIGHT + "\u00b6" + Checks.program("x : INT; a : ARRAY [0 .. 1] OF INT;", "a[" + laying(65, "x") + "] := 1;"));
+    }
+
+    private static void stackIsEven() {
+        Checks.says("51: more than 64 numbers would lie on the stack behind one of its instructions that can be come to");
+        String variables = "x : INT; d : DINT; b : BOOL; a : ARRAY [0 .. 1] OF INT; t : TON; k : m;";
+        String block = EIGHT + "FUNCTION_BLOCK m END_FUNCTION_BLOCK ";
+        for (String before : new String[] {"a[0] := 1;", "x := a[0];", "x := f(x, x, x, x, x, x, x, x);", "x := SEL(b, x, 1);", "x := -x;", "x := x + x;", "t(IN := b, PT := 1);", "k();",
+            "IF b THEN END_IF;", "IF b THEN ELSE END_IF;", "IF b THEN ELSIF b THEN ELSE END_IF;", "CASE x OF 1, 2 .. 3: ELSE END_CASE;", "FOR d := 1 TO 2 DO END_FOR;",
+            "FOR d := 1 TO 2 DO IF b THEN EXIT; END_IF; END_FOR;", "IF b THEN RETURN; END_IF;", "x := LIMIT(x, 1, x);"}) {
+            Checks.fine(block + Checks.program(variables, before + "x := " + laying(64, "x") + ";"));
+            Checks.faulty(51, block + "\u00b6" + Checks.program(variables, before + "x := " + laying(65, "x") + ";"));
+            Checks.fine(block + Checks.program(variables, before.repeat(70)));
+        }
     }
 
     private static void notComeTo() {
@@ -170,6 +191,32 @@ public final class MadeEdgeTests {
         Checks.due("64 ones in each of both", y.get(961), 127);
     }
 
+    private static void deepUnits() {
+        Checks.says("with those of units that it begins, each instruction being a STEP:");
+        // fifteen instances, each within the next one; each has a variable before and one behind
+        StringBuilder text = new StringBuilder("FUNCTION_BLOCK c0 VAR u : INT := 100; v : INT := 200; END_VAR u := u + 1; END_FUNCTION_BLOCK ");
+        for (int i = 1; i < 15; i++) {
+            text.append("FUNCTION_BLOCK c").append(i).append(" VAR u : INT := ").append(100 + i).append("; k : c").append(i - 1).append("; v : INT := ").append(200 + i)
+                .append("; END_VAR k(); u := u + 1; END_FUNCTION_BLOCK ");
+        }
+        CodeMaker x = Checks.made(text + Checks.program("k : c14;", "k();"));
+        for (int i = 0; i < 15; i++) {
+            Checks.due("constant before", x.get(960 + i), 114 - i);
+            Checks.due("constant behind", x.get(960 + 15 + i), 200 + i);
+        }
+        Checks.due("steps", x.run(0), 4 + 14 * 5 + 1);
+        Checks.due("the bound", x.count(7), 4 + 14 * 5 + 1);
+        for (int i = 0; i < 15; i++) {
+            Checks.due("each was run once", x.get(960 + i), 115 - i);
+            Checks.due("the other ones stay", x.get(960 + 15 + i), 200 + i);
+        }
+        // as many units end as there are steps, almost
+        CodeMaker y = Checks.made("FUNCTION_BLOCK g END_FUNCTION_BLOCK " + Checks.program("k : g; x : INT;", "FOR x := 1 TO 49 DO " + "k();".repeat(1000) + " END_FOR;"));
+        Checks.due("the bound", y.count(7), 3 + 49 * 1006 + 1);
+        Checks.due("a run", y.run(0), 3 + 49 * 1006 + 1);
+        Checks.due("it went on to the end", y.get(960), 50);
+    }
+
     private static String tooLong() {
         return "FOR d := 1 TO 1000000 DO FOR x := 1 TO 200 DO END_FOR; END_FOR;";
     }
@@ -204,6 +251,16 @@ public final class MadeEdgeTests {
         Checks.due("half of it", Checks.made(f + Checks.program("k : f;", "k();")).count(7), 500000005);
         Checks.faulty(52, f + "\u00b6" + Checks.program("k : f;", "k(); k();"));
         Checks.due("one of both", Checks.made(f + Checks.program("k : f; b : BOOL;", "IF b THEN k(); ELSE k(); END_IF;")).count(7), 500000005 + 3);
+        // a unit has nothing of the one before it, nor of what was made before
+        String left = "FUNCTION l : INT VAR b : BOOL; END_VAR b := b; b := b; b := b; RETURN; END_FUNCTION ";
+        CodeMaker short1 = Checks.made(left + Checks.program("b : BOOL;", "b := b;"));
+        Checks.due("behind a unit with LEAVE", short1.count(7), 2);
+        Checks.feed(short1, Checks.program("b : BOOL;", "b := b; b := b; b := b; RETURN;"));
+        Checks.due("make()", short1.make(), 0);
+        Checks.due("a longer one", short1.count(7), 7);
+        Checks.feed(short1, Checks.program("b : BOOL;", "b := b;"));
+        Checks.due("make()", short1.make(), 0);
+        Checks.due("a shorter one behind it", short1.count(7), 2);
         // a chain of units, each of which begins the one before it ten times
         StringBuilder chain = new StringBuilder("FUNCTION_BLOCK c0 VAR b : BOOL; END_VAR b := b; END_FUNCTION_BLOCK ");
         long bound = 2;
@@ -290,8 +347,8 @@ public final class MadeEdgeTests {
         Checks.says("Behind that all CELLS (of the PROGRAM, of instances in it, of FUNCTIONS) are as their constants say (of an ARRAY each element), 0 without, and NOW is 0.");
         CodeMaker x = Checks.made("FUNCTION_BLOCK g VAR_INPUT i : INT := 1; END_VAR VAR_OUTPUT o : INT := 2; END_VAR VAR a : ARRAY [0 .. 1] OF INT := 3; n : INT; END_VAR END_FUNCTION_BLOCK "
             + "FUNCTION_BLOCK h VAR k, l : g; v : DINT := -2147483647; END_VAR END_FUNCTION_BLOCK FUNCTION f : INT VAR_INPUT i : BOOL := TRUE; END_VAR VAR v : INT := 4; END_VAR END_FUNCTION "
-            + Checks.program("q AT %QX255 : BOOL := TRUE; m AT %MW63 : INT := -5; x : INT; y : h; z, w : ARRAY [5 .. 6] OF BOOL := TRUE; u : INT := 32767; t : TON;", ""));
-        int[] due = {0, 1, 2, 3, 3, 0, 1, 2, 3, 3, 0, -2147483647, 1, 1, 1, 1, 32767, 0, 0, 0, 0, 0, 0, 0, 1, 4};
+            + Checks.program("q AT %QX255 : BOOL := TRUE; m AT %MW63 : INT := -5; x : INT; y : h; z, w : ARRAY [5 .. 6] OF BOOL := TRUE; u : INT := 32767; t : TON; s : BOOL := FALSE;", ""));
+        int[] due = {0, 1, 2, 3, 3, 0, 1, 2, 3, 3, 0, -2147483647, 1, 1, 1, 1, 32767, 0, 0, 0, 0, 0, 0, 0, 0, 1, 4};
         for (int round = 0; round < 2; round++) {
             Checks.due("cells", x.count(4), 960 + due.length);
             for (int i = 0; i < 960; i++) {

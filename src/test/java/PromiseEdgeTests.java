@@ -13,6 +13,7 @@ public final class PromiseEdgeTests {
         feedingTooMuch();
         endingInRange();
         endingByAnyCalls();
+        endingForGood();
         endingRefused();
         makingTwice();
         makingFault();
@@ -169,6 +170,26 @@ public final class PromiseEdgeTests {
         Checks.due("blanks alone", x.make(), 10);
     }
 
+    private static void endingForGood() {
+        Checks.says("the first n (0 .. 20) stay");
+        // what was cut off is gone, though it would have been a part of the last token
+        String text = "(* *)PROGRAM p VAR x:INT;a AT %QW12:INT:=-16#1F;b:BOOL;END_VAR IF b THEN x:=T#12ms;b:=x<=1;END_IF;CASE x OF 1..22:END_CASE;END_PROGRAM(* *)";
+        CodeMaker x = new CodeMaker();
+        for (int bytes = 0; bytes <= text.length(); bytes++) {
+            CodeMaker fresh = new CodeMaker();
+            Checks.feed(fresh, text.substring(0, bytes));
+            x = bytes % 10 == 0 ? new CodeMaker() : x;
+            Checks.feed(x, " ".repeat(20) + text + " ".repeat(20));
+            for (int left = 20 + text.length() + 20; left > 20 + bytes; left -= 20 - Math.max(0, 20 - (left - 20 - bytes))) {
+                x.end(Math.max(0, 20 - (left - 20 - bytes)));
+            }
+            int fault = fresh.make();
+            Checks.due("make of " + bytes + " bytes", x.make(), fault);
+            Checks.due("its place", x.count(1), fault == 0 ? CodeMaker.NONE : fault == 10 ? 0 : fresh.count(1) + 20);
+            Checks.due("bytes", x.clear(), 20 + bytes);
+        }
+    }
+
     private static void endingRefused() {
         Checks.says("NONE: another n, or fewer than twenty bytes are there.");
         CodeMaker x = new CodeMaker();
@@ -193,6 +214,10 @@ public final class PromiseEdgeTests {
         Checks.due("the cell anew", x.get(960), 7);
         Checks.due("a run", x.run(5), 4);
         Checks.due("the text stays", x.clear(), TEXT.length());
+        // places that were used before are free again
+        CodeMaker y = Checks.made("PROGRAM p VAR a AT %IX0:BOOL;b AT %IX255:BOOL;c AT %QX0:BOOL;d AT %MX255:BOOL;e AT %IW0:INT;f AT %MW63:INT;END_VAR END_PROGRAM");
+        Checks.due("make() again", y.make(), 0);
+        Checks.due("and again", y.make(), 0);
     }
 
     private static void makingFault() {

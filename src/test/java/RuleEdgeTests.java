@@ -25,6 +25,7 @@ public final class RuleEdgeTests {
         typesOfNumbers();
         functions();
         operandCounts();
+        inputsOfOthers();
         operandTypes();
         operators();
         notAssigned();
@@ -372,6 +373,9 @@ public final class RuleEdgeTests {
         faulty(24, "x := \u00b6p();");
         faulty(24, "x := \u00b6TON(1);");
         faulty(24, "x := \u00b6t(1);");
+        for (String name : "IN PT Q ET CU R PV CV CD LD CLK S1 S R1 Q1".split(" ")) {
+            faulty(24, "x := \u00b6" + name + "(1);");
+        }
         Checks.faulty(24, block("", "") + Checks.program(ALL, "x := \u00b6g();"));
         Checks.faulty(24, function("", "f := \u00b6f();") + LEAST);
         Checks.faulty(24, "FUNCTION h : INT h := \u00b6f(); END_FUNCTION " + function("", "") + LEAST);
@@ -403,6 +407,19 @@ public final class RuleEdgeTests {
                 Checks.faulty(25, f + Checks.program(ALL, "x := \u00b6f(" + operands("x", inputs - 1) + ");"));
             }
         }
+    }
+
+    private static void inputsOfOthers() {
+        Checks.says("LIMIT SEL 3, a FUNCTION its inputs.");
+        // the inputs of the block behind it are none of its
+        String two = function("VAR_INPUT a : INT; END_VAR", "") + block("VAR_INPUT b : INT; END_VAR", "") + "FUNCTION_BLOCK h VAR_INPUT c : INT; END_VAR VAR_OUTPUT o : INT; END_VAR END_FUNCTION_BLOCK ";
+        Checks.code(two + Checks.program(ALL, "x := f(1);"), "PUSH 1, WRITE 0 1, CALL 0, READ 0 0, STORE 960");
+        Checks.faulty(25, two + Checks.program(ALL, "x := \u00b6f(1, 2);"));
+        Checks.faulty(25, function("", "") + block("VAR_INPUT b : INT; END_VAR", "") + Checks.program(ALL, "x := \u00b6f(1);"));
+        Checks.faulty(32, two + Checks.program("k : g;", "k(\u00b6c := 1);"));
+        Checks.faulty(32, two + Checks.program("k : h;", "k(\u00b6b := 1);"));
+        Checks.faulty(23, two + Checks.program("k : g; x : INT;", "x := \u00b6k.o;"));
+        Checks.fine(two + Checks.program("k : g; l : h;", "k(b := 1); l(c := 1);"));
     }
 
     private static void operandTypes() {
@@ -693,6 +710,8 @@ public final class RuleEdgeTests {
         Checks.says("29: 40: in the last row.");
         faulty(40, rung("- \u00b6| -;"));
         faulty(40, rung("- | -; - \u00b6| -;"));
+        faulty(40, "LADDER RUNG - \u00b6| -; END_RUNG RUNG - -; - -; END_RUNG END_LADDER");
+        faulty(40, "LADDER RUNG - -; END_RUNG RUNG - | -; - \u00b6| -; END_RUNG RUNG - -; END_RUNG END_LADDER");
         fine(rung("- | -; - | -; - -;"));
         fine("LADDER RUNG - | -; - -; END_RUNG RUNG - | -; - -; END_RUNG END_LADDER");
     }

@@ -15,6 +15,7 @@ public final class TokenEdgeTests {
         longestTokens();
         names();
         longNames();
+        manyNames();
         sizesOfLetters();
         words();
         numbers();
@@ -40,6 +41,9 @@ public final class TokenEdgeTests {
         Checks.faulty(6, LEAST + " ".repeat(8192 - 22) + "\u00b6;");
         Checks.faulty(6, "PROGRAM p" + ";".repeat(8192 - 9) + "\u00b6");
         Checks.faulty(10, "\u00b6");
+        // as many tokens as bytes
+        Checks.faulty(6, "\u00b6" + ";".repeat(8192));
+        Checks.faulty(6, "PROGRAM p \u00b6" + ",".repeat(8192 - 10));
     }
 
     private static boolean isNameByte(int b) {
@@ -158,6 +162,47 @@ public final class TokenEdgeTests {
         // names are told apart by all of their 32 bytes
         Checks.fine("PROGRAM p VAR " + "a".repeat(31) + "b, " + "a".repeat(31) + "c, " + "a".repeat(31) + ", b" + "a".repeat(31) + " : INT; END_VAR END_PROGRAM");
         Checks.faulty(12, "PROGRAM p VAR " + "a".repeat(31) + "b, \u00b6" + "A".repeat(31) + "B : INT; END_VAR END_PROGRAM");
+    }
+
+    private static void manyNames() {
+        Checks.says("(Below, name is one that is none of these.)");
+        String firsts = "ABCDEFGHIJKLMNOPQRSTUVWXYZ_";
+        String seconds = firsts + "0123456789";
+        String known = " OF IF OR TO BY DO AT TP SR RS ";
+        StringBuilder names = new StringBuilder("P");
+        int many = 1;
+        for (char first : firsts.toCharArray()) {
+            for (char second : seconds.toCharArray()) {
+                if (known.indexOf(" " + first + second + " ") < 0) {
+                    names.append(',').append(first).append(second);
+                    many++;
+                }
+            }
+        }
+        for (char first : firsts.toCharArray()) {
+            for (char third : "AZ_059".toCharArray()) {
+                names.append(',').append(first).append('Q').append(third);
+                many++;
+            }
+        }
+        // all are told apart, and the first and the last are still known behind them
+        CodeMaker x = Checks.made("PROGRAM program1 VAR " + names + ":INT;END_VAR p:=_q9;_Q9:=P;END_PROGRAM");
+        Checks.due("cells", x.count(4), 960 + many);
+        Checks.due("the last name", x.told(0, 0, 1), 960 + many - 1);
+        Checks.due("the first name", x.told(0, 1, 1), 960);
+        Checks.due("names", many, 1 + 27 * 37 - 10 + 27 * 6);
+        // names of four bytes that are alike but for one of these
+        for (int place = 0; place < 4; place++) {
+            StringBuilder alike = new StringBuilder("P");
+            for (int i = 0; i < 40; i++) {
+                String rest = "" + seconds.charAt(i % 37) + seconds.charAt(7 * i % 37) + seconds.charAt(i / 37);
+                for (char one : firsts.toCharArray()) {
+                    String name = rest.substring(0, place) + one + rest.substring(place);
+                    alike.append(',').append(Character.isDigit(name.charAt(0)) ? "_" : "").append(name);
+                }
+            }
+            Checks.due("cells", Checks.made("PROGRAM program1 VAR " + alike + ":INT;END_VAR END_PROGRAM").count(4), 961 + 40 * 27);
+        }
     }
 
     private static void sizesOfLetters() {
