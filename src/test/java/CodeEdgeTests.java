@@ -359,6 +359,9 @@ public final class CodeEdgeTests {
         Checks.says("(A row and the next one are linked at the line behind the cell before a 29 in the first of them.)");
         ladder("- | - -; - - | -; - - -;", "PUSH 1, PUSH 1, TWO 11, STORE 962, PUSH 1, STORE 964, LOAD 962, STORE 974, LOAD 962, LOAD 964, TWO 11, STORE 975, "
             + "LOAD 974, STORE 986, LOAD 975, STORE 987, LOAD 975, STORE 988");
+        // the next rung has none of the links of the one before it
+        ladder("- | -; - -; END_RUNG RUNG - -; - -;", "PUSH 1, PUSH 1, TWO 11, STORE 962, LOAD 962, STORE 974, LOAD 962, STORE 975, "
+            + "PUSH 1, STORE 962, PUSH 1, STORE 963, LOAD 962, STORE 974, LOAD 963, STORE 975");
     }
 
     private static void powers() {

@@ -159,6 +159,10 @@ public final class MadeEdgeTests {
         Checks.fine(EIGHT + Checks.program(XB, "RETURN; FOR d := 1 TO 2 DO " + deep + " END_FOR; " + deep));
         // the instruction that is too much may be one of those that can't, the one before it can
         Checks.fine(EIGHT + Checks.program(XB, "x := " + laying(64, "x") + "; RETURN; " + deep));
+        // nor do numbers lead there that are told with other instructions
+        for (int i = 1; i < 120; i += 7) {
+            Checks.fine(EIGHT + Checks.program(XB, "FOR d := 1 TO " + i + " DO END_FOR; x := " + i + "; RETURN; " + deep));
+        }
     }
 
     private static void loopsComeTo() {
@@ -294,6 +298,14 @@ public final class MadeEdgeTests {
         bound("IF b THEN RETURN; END_IF; x := 2;", 4);
         bound("IF b THEN RETURN; ELSE RETURN; END_IF; x := 2; x := 2;", 3);
         bound("IF b THEN ELSIF b THEN ELSIF b THEN x := 1; END_IF;", 8);
+        // numbers that are told with other instructions are no ways
+        for (int i = 0; i < 40; i++) {
+            bound("x := " + i + "; RETURN; " + "b := b; ".repeat(20), 3);
+            bound("FOR d := 1 TO " + i + " DO END_FOR; RETURN; " + "b := b; ".repeat(20), 3 + 6 * i + 1 + 1);
+        }
+        bound("RETURN; FOR d := 1 TO 0 DO END_FOR; b := b; b := b;", 1);
+        bound("RETURN; FOR d := 1 TO 5 DO b := b; END_FOR; b := b; b := b;", 1);
+        bound("RETURN; FOR d := 1 TO 5 DO IF b THEN RETURN; END_IF; EXIT; END_FOR; b := b; b := b;", 1);
     }
 
     private static void loopWays() {
@@ -327,6 +339,10 @@ public final class MadeEdgeTests {
         bound("FOR x := 1 TO 5 DO FOR d := 1 TO 4 DO IF b THEN b := b OR b OR b OR b; RETURN; END_IF; END_FOR; END_FOR;", 3 + 5 * (6 + 3 + 4 * 8 + 1) + 1);
         bound("FOR x := 1 TO 5 DO FOR d := 1 TO 4 DO IF b THEN b := b OR b OR b OR b; EXIT; END_IF; END_FOR; END_FOR;", 3 + 5 * (6 + 3 + 3 * 8 + (1 + 2 + 8 + 1)) + 1);
         bound("FOR x := 1 TO 5 DO FOR d := 1 TO 4 DO RETURN; END_FOR; END_FOR; b := b;", 3 + 1 + 3 + 2);
+        // a loop has nothing of the one before it
+        bound("FOR x := 1 TO 1 DO IF b THEN " + "b := b; ".repeat(20) + "RETURN; END_IF; END_FOR; FOR x := 1 TO 1 DO END_FOR;", 3 + 1 + 2 + 41);
+        bound("FOR x := 1 TO 1 DO IF b THEN " + "b := b; ".repeat(20) + "EXIT; END_IF; END_FOR; FOR x := 1 TO 1 DO END_FOR;", 3 + 1 + 2 + 41 + 10);
+        bound("FOR x := 1 TO 9 DO END_FOR; FOR x := 1 TO 1 DO EXIT; END_FOR; FOR x := 1 TO 2 DO END_FOR;", 58 + 5 + 16);
         // a run takes no more steps than the bound
         CodeMaker x = Checks.made(Checks.program(XB + "c : BOOL;", "FOR x := 1 TO 5 DO IF x = 5 THEN c := b OR b OR b OR b; EXIT; END_IF; END_FOR; b := b;"));
         Checks.due("the longest way", x.run(0), x.count(7));
@@ -398,6 +414,28 @@ public final class MadeEdgeTests {
         Checks.due("y", x.get(961), 8);
         Checks.due("no element", x.get(962) + x.get(963), 0);
         Checks.due("the next run begins anew", x.run(0), CodeMaker.INDEX);
+        deepFaults(x);
+    }
+
+    private static void deepFaults(CodeMaker x) {
         Checks.due("with no more than it had", x.count(5), 22);
+        // a run that ends in a unit that was begun, then one that goes through
+        x.set(961, 0);
+        Checks.due("ZERO", x.run(0), CodeMaker.ZERO);
+        x.set(961, 10);
+        x.set(960, 0);
+        Checks.due("INDEX", x.run(0), CodeMaker.INDEX);
+        CodeMaker y = Checks.made("FUNCTION f : INT VAR_INPUT a, b, c, d, e, g, h, i : INT; END_VAR f := a + i; END_FUNCTION "
+            + "FUNCTION z : INT VAR_INPUT i : INT; END_VAR z := 10 / i; END_FUNCTION " + Checks.program("x, r : INT;", "r := " + laying(64, "z(x)") + ";"));
+        for (int i = 0; i < 40; i++) {
+            Checks.due("ZERO with 63 numbers waiting", y.run(0), CodeMaker.ZERO);
+        }
+        y.set(960, 5);
+        Checks.due("what lay there is gone", y.run(0), y.count(7));
+        // i of the innermost call is 10 / 5, each call adds its a, which is 5
+        Checks.due("what comes", y.get(961), 2 + 9 * 5);
+        y.set(960, 0);
+        Checks.due("ZERO again", y.run(0), CodeMaker.ZERO);
+        Checks.due("the cell stays", y.get(961), 2 + 9 * 5);
     }
 }

@@ -223,6 +223,12 @@ public final class RuleEdgeTests {
         Checks.says("18: with a constant: the type is an instance; or 7 is IX or IW;");
         Checks.faulty(18, Checks.program("\u00b6v : TON := 0;", ""));
         Checks.faulty(18, block("", "") + Checks.program("\u00b6v : g := TRUE;", ""));
+        for (String name : BLOCKS) {
+            for (String constant : new String[] {"TRUE", "FALSE", "0", "5", "-40000"}) {
+                Checks.faulty(18, Checks.program("\u00b6v : " + name + " := " + constant + ";", ""));
+                Checks.faulty(18, block("", "") + Checks.program("\u00b6v : g := " + constant + ";", ""));
+            }
+        }
         Checks.faulty(18, Checks.program("\u00b6v AT %IX0 : BOOL := FALSE;", ""));
         Checks.faulty(18, Checks.program("\u00b6v AT %IX255 : BOOL := TRUE;", ""));
         Checks.faulty(18, Checks.program("\u00b6v AT %IW0 : INT := 0;", ""));

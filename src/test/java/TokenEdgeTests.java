@@ -203,6 +203,17 @@ public final class TokenEdgeTests {
             }
             Checks.due("cells", Checks.made("PROGRAM program1 VAR " + alike + ":INT;END_VAR END_PROGRAM").count(4), 961 + 40 * 27);
         }
+        // names that are beginnings of others, the longer ones first, and the other way round
+        for (boolean isShortFirst : new boolean[] {false, true}) {
+            StringBuilder beginnings = new StringBuilder("P");
+            for (int i = 0; i < 12; i++) {
+                for (int size = 32; size > 3; size--) {
+                    String whole = ("X" + (char) ('A' + i) + "Q7_KZ3WMD_8VX0PLR5TB2YHN4GC6FJS9EAU").substring(0, 32);
+                    beginnings.append(',').append(whole, 0, isShortFirst ? 36 - size : size);
+                }
+            }
+            Checks.due("cells", Checks.made("PROGRAM program1 VAR " + beginnings + ":INT;END_VAR END_PROGRAM").count(4), 961 + 12 * 29);
+        }
     }
 
     private static void sizesOfLetters() {
