@@ -73,6 +73,7 @@ public final class RuleEdgeTests {
         Checks.faulty(10, LEAST + " \u00b6FUNCTION p : INT VAR x : foo; END_VAR END_FUNCTION");
         Checks.faulty(17, "FUNCTION_BLOCK g VAR_OUTPUT x : \u00b6foo; END_VAR END_FUNCTION_BLOCK " + LEAST);
         Checks.faulty(12, "PROGRAM p VAR_INPUT x : INT; \u00b6x : foo; END_VAR END_PROGRAM");
+        mostNodes();
         Checks.says("of its rules the first as told here; its place is the node's.");
         Checks.faulty(10, LEAST + " \u00b6PROGRAM p END_PROGRAM");
         Checks.faulty(43, block("VAR_INPUT \u00b6x : TON := 5; END_VAR", "") + LEAST);
@@ -84,6 +85,17 @@ public final class RuleEdgeTests {
         faulty(33, "t(IN := b, \u00b6IN := 5);");
         faulty(39, "LADDER RUNG \u00b6(x) b; END_RUNG END_LADDER");
         faulty(41, "LADDER RUNG \u00b6(w); END_RUNG END_LADDER");
+    }
+
+    /** Texts with almost twice as many nodes as bytes: the last node is looked at like the first one. */
+    private static void mostNodes() {
+        String choices = "PROGRAM p VAR x:INT;END_VAR CASE x OF " + "1:".repeat(4050);
+        Checks.faulty(20, choices + "\u00b6y:=1;END_CASE;END_PROGRAM");
+        Checks.faulty(31, choices + "x\u00b6:=TRUE;END_CASE;END_PROGRAM");
+        Checks.faulty(50, "\u00b6" + choices + "x:=1;END_CASE;END_PROGRAM");
+        Checks.faulty(20, "PROGRAM p VAR b:BOOL;END_VAR LADDER RUNG " + "b;".repeat(4000) + "\u00b6c;END_RUNG END_LADDER END_PROGRAM");
+        Checks.faulty(38, "PROGRAM p VAR b:BOOL;END_VAR LADDER \u00b6RUNG " + "b;".repeat(4000) + "END_RUNG END_LADDER END_PROGRAM");
+        Checks.faulty(25, "PROGRAM p VAR x:INT;END_VAR x:=\u00b6MIN(" + "x,".repeat(4050) + "x);END_PROGRAM");
     }
 
     private static void programs() {
